@@ -19,6 +19,8 @@ public final class PurseAuction {
     private static final int SETTINGS = 6;
     private static final int SLOTS = 2;
     private static final int MOST_SIGNS = 60, SIGNS_AT_ONCE = 8;
+    /** Far above what a forecast needs at most: 11 lots whose price falls 300 times, and the last one. */
+    private static final int MOST_MOVES = 1000000;
     /** The settings begin at this number among what count() tells. */
     private static final int COUNTED_SETTINGS = 13;
 
@@ -88,11 +90,11 @@ public final class PurseAuction {
     }
 
     public int move() {
-        return game.auction.goesOn() ? game.moveAlone() : NOT_POSSIBLE;
+        return game.moveAlone();
     }
 
     public int last() {
-        return game.lots.nextIsLast() ? game.giveLast() : NOT_POSSIBLE;
+        return game.giveLast();
     }
 
     public int ask(int player, int amount) {
@@ -186,7 +188,15 @@ public final class PurseAuction {
         if (!game.purses.hasSeat(player)) return NO_SUCH;
         if (!isMode(mode) || !isReserve(reserve)) return BAD_VALUE;
         trial.takeOver(game);
-        trial.playOut(mode, reserve);
+        for (int moves = 0; moves < MOST_MOVES && trial.lots.next() != NONE; moves++) {
+            if (trial.auction.goesOn()) {
+                trial.moveAlone();
+            } else if (trial.lots.nextIsForSale()) {
+                trial.startAuction(mode, reserve);
+            } else {
+                trial.giveLast();
+            }
+        }
         return trial.scoreOf(player);
     }
 
@@ -248,14 +258,14 @@ public final class PurseAuction {
         return done;
     }
 
-    /** Carries out the act that the pad has read last, and answers as its call does. */
+    /** Carries out the act that the pad has read last, and answers as the call of this act does. */
     private int carryOutAct() {
         switch (pad.act) {
-            case 's': return begin(pad.first, pad.second);
-            case 'b': return bid(pad.first, pad.second);
-            case 'p': return pass(pad.first);
-            case 'm': return move();
-            default: return last();
+            case 's': return game.startAuction(pad.first, pad.second);
+            case 'b': return game.takeBid(pad.first, pad.second);
+            case 'p': return game.takePass(pad.first);
+            case 'm': return game.moveAlone();
+            default: return game.giveLast();
         }
     }
 
@@ -328,9 +338,6 @@ public final class PurseAuction {
 
     /** A whole game: what a slot keeps, and what a forecast is played in. */
     private static final class Game {
-        /** Far above what any game needs: 11 lots whose price falls 300 times, and the last one. */
-        private static final int MOST_MOVES = 1000000;
-
         private final int[] settings = SETTING_FIRST.clone();
         private final Purses purses = new Purses();
         private final Lots lots = new Lots();
@@ -395,6 +402,7 @@ public final class PurseAuction {
         }
 
         private int moveAlone() {
+            if (!auction.goesOn()) return NOT_POSSIBLE;
             if (auction.mode == FALLING) {
                 claimAlone();
                 letFall();
@@ -402,11 +410,10 @@ public final class PurseAuction {
             }
             int seat = auction.mode == OPEN ? auction.turn : firstWithoutBid();
             int limit = limitOf(seat);
-            int raised = leastRaise();
             if (auction.mode == SEALED) {
                 handIn(seat, limit >= auction.reserve ? limit : 0);
-            } else if (raised <= limit) {
-                raise(seat, raised);
+            } else if (leastRaise() <= limit) {
+                raise(seat, leastRaise());
             } else {
                 stepOut(seat);
             }
@@ -423,7 +430,7 @@ public final class PurseAuction {
             return winners;
         }
 
-        /** Makes the winners share the price; what is left of the division falls on the first ones from the starter on. */
+        /** Makes the winners share the price; the first ones from the starter on pay what is left of the division. */
         private void collect(int winners, int price) {
             int sharers = Integer.bitCount(winners);
             if (sharers == 0) return;
@@ -439,6 +446,7 @@ public final class PurseAuction {
         }
 
         private int giveLast() {
+            if (!lots.nextIsLast()) return NOT_POSSIBLE;
             int poorest = purses.poorest(starter());
             lots.close(1 << poorest, 0);
             return poorest;
@@ -560,18 +568,6 @@ public final class PurseAuction {
                 if (seat != player) needed = Math.max(needed, limitOf(seat));
             }
             return needed;
-        }
-
-        private void playOut(int mode, int reserve) {
-            for (int moves = 0; moves < MOST_MOVES && lots.next() != NONE; moves++) {
-                if (auction.goesOn()) {
-                    moveAlone();
-                } else if (lots.nextIsForSale()) {
-                    startAuction(mode, reserve);
-                } else {
-                    giveLast();
-                }
-            }
         }
 
         private int valueOf(int seat) {
@@ -827,14 +823,14 @@ public final class PurseAuction {
         }
 
         private int shareOf(int lot) {
-            int sharers = Integer.bitCount(ownersOf(lot));
-            return sharers > 0 ? worthOf(lot) / sharers : 0;
+            int sharers = hasLot(lot) ? Integer.bitCount(owners[lot]) : 0;
+            return sharers > 0 ? worth[lot] / sharers : 0;
         }
 
         private int ownedOfColour(int seat, int hue) {
             int owned = 0;
             for (int lot = 0; lot < done; lot++) {
-                if (owns(seat, lot) && colourOf(lot) == hue) owned++;
+                if (owns(seat, lot) && colour[lot] == hue) owned++;
             }
             return owned;
         }
@@ -1108,7 +1104,7 @@ public final class PurseAuction {
 
         /** The sign at a place, 0 behind the end. */
         private int signAt(int index) {
-            return within(index, 0, length - 1) ? signs[index] : 0;
+            return index >= 0 && index < length ? signs[index] : 0;
         }
     }
 }

@@ -15,7 +15,9 @@ public final class AuctionTest {
         sealedTies();
         sealedReserve();
         fallingClaims();
+        fallingWholePurse();
         fallingOrder();
+        sixPlayers();
         fallingToNothing();
         passErrors();
         openMoves();
@@ -240,6 +242,29 @@ public final class AuctionTest {
         T.due("9: sold", x.pass(0), 2);
         T.due("9: paid", x.player(1, 0), 1);
         T.due("9: price", x.about(0, 3), 99);
+    }
+
+    private static void fallingWholePurse() {
+        PurseAuction x = withLots(2, 20, 20);
+        x.begin(FALLING, 100);
+        T.due("8: a claim at the whole purse", x.bid(1, 100), NONE);
+        T.due("9: sold", x.pass(0), 2);
+        T.due("9: nothing left", x.player(1, 0), 0);
+    }
+
+    private static void sixPlayers() {
+        PurseAuction x = withLots(6, 20, 20, 20, 20);
+        x.begin(SEALED, 5);
+        for (int seat = 0; seat < 5; seat++) T.due("8: seat " + seat, x.bid(seat, 7), NONE);
+        T.due("8: the bids are known when all are in", x.known(0, 0), 0);
+        T.due("8: all six share", x.bid(5, 7), 63);
+        T.due("8: seat 0 pays 2", x.player(0, 2), 2);
+        T.due("8: seat 5 pays 1", x.player(5, 2), 1);
+        x.begin(OPEN, 5);
+        for (int seat = 1; seat < 6; seat++) T.due("8: seat " + seat, x.bid(seat, 5 * seat), NONE);
+        T.due("8: bid of seat 5", x.player(5, 8), 25);
+        for (int seat = 0; seat < 4; seat++) T.due("9: seat " + seat, x.pass(seat), NONE);
+        T.due("9: seat 5 wins", x.pass(4), 32);
     }
 
     private static void fallingOrder() {

@@ -12,6 +12,7 @@ public final class ForecastTest {
         forecastChangesNothing();
         longestForecast();
         bestMode();
+        bestInTheMiddle();
         leastBidErrors();
         leastBid();
         T.end();
@@ -138,6 +139,21 @@ public final class ForecastTest {
         T.due("20: the auction has its own mode", x.bestMode(1, 300), OPEN);
     }
 
+    private static void bestInTheMiddle() {
+        PurseAuction x = new PurseAuction();
+        x.setUp(2);
+        x.lot(0, 10);
+        x.lot(0, 10);
+        x.lot(0, 30);
+        x.embolden(0, 5);
+        x.embolden(1, 5);
+        // OPEN: seat 0 gets all. SEALED: both share for 5 and 7. FALLING: each gets one for 1. Seat 0 gets the last.
+        T.due("20: OPEN", x.forecast(OPEN, 1, 1), 100 / 5);
+        T.due("20: SEALED", x.forecast(SEALED, 1, 1), 5 + 5 + 4 + 94 / 5);
+        T.due("20: FALLING", x.forecast(FALLING, 1, 1), 10 + 99 / 5);
+        T.due("20: not the last one that is better than the first", x.bestMode(1, 1), SEALED);
+    }
+
     private static void leastBidErrors() {
         PurseAuction x = new PurseAuction();
         T.due("21: no player", x.leastBid(3, 0), NO_SUCH);
@@ -161,6 +177,9 @@ public final class ForecastTest {
         x.embolden(1, 15);
         T.due("21: as the boldest other", x.leastBid(0, 1), 30);
         T.due("21: its own limit is no matter", x.leastBid(1, 1), 20);
+        x.embolden(0, 20);
+        T.due("21: as seat 0", x.leastBid(2, 1), 40);
+        x.embolden(0, 10);
         T.due("21: at the reserve all others hand in 0", x.leastBid(0, 31), 31);
         T.due("21: the reserve is handed in", x.leastBid(0, 30), 30);
         T.due("21: up to the purse", x.leastBid(0, 100), 100);

@@ -88,6 +88,9 @@ public final class GameTest {
         T.due("2: least", x.known(0, 0), 0);
         T.due("2: greatest", x.known(0, 1), 300);
         T.due("2: settings stay", x.count(18), 7);
+        x.lot(0, 5);
+        T.due("2: a new lot has no owners", x.about(0, 2), 0);
+        T.due("2: and no price", x.about(0, 3), NONE);
         T.due("2: the pad stays", x.count(12), 3);
         T.due("2: slots stay", x.restore(1), 0);
         T.due("2: as it was saved", x.player(2, 0), 5);

@@ -5,6 +5,7 @@ public final class KnownTest {
 
     public static void main(String[] args) {
         errors();
+        firstQuestions();
         twoPlayers();
         narrowRanges();
         ofFullPurses();
@@ -22,6 +23,23 @@ public final class KnownTest {
         T.due("18: no player -1", x.canPay(-1, 0), NO_SUCH);
         T.due("18: amount -1", x.canPay(0, -1), BAD_VALUE);
         T.due("18: amount 301", x.canPay(0, 301), BAD_VALUE);
+    }
+
+    /** Each answer counts anew, whatever was asked before. */
+    private static void firstQuestions() {
+        int[] due = {0, 300, 0, 200, 100};
+        for (int what = 0; what < 5; what++) {
+            PurseAuction x = new PurseAuction();
+            x.setUp(2);
+            T.due("16: first of all, " + what, x.known(1, what), due[what]);
+            x.fill(0, 50);
+            x.fill(1, 50);
+            x.ask(0, 40);
+            T.due("16: least of 1", x.known(1, 2), 0);
+            x.ask(1, 40);
+            T.due("16: greatest of 0", x.known(0, 3), 60);
+            T.due("16: least of 0", x.known(0, 2), 40);
+        }
     }
 
     private static void twoPlayers() {
