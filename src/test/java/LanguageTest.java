@@ -99,6 +99,10 @@ public final class LanguageTest {
         holds("rule 5: no static block", !Pattern.compile("static\\s*\\{").matcher(code).find());
         holds("rule 10: no joining of texts by +", !code.contains("\""));
         holds("rule 4: signs 1 to 127", source.chars().allMatch(sign -> sign >= 1 && sign <= 127));
+        Set<String> library = Set.of("Math.max", "Math.min", "Integer.bitCount", "System.arraycopy");
+        Matcher used = Pattern.compile("\\b(?:Math|Integer|Long|System|Arrays|String|List|Iterator)\\.\\w+").matcher(code);
+        while (used.find()) holds("rule 4: " + used.group(), library.contains(used.group()));
+        holds("rule 3: no array of two dimensions", !code.contains("[]["));
         Matcher method = Pattern.compile("(?m)^( +)(?:public|private)[^=;]*\\) \\{\n((?:(?!\\1\\}).*\n)*)\\1\\}").matcher(code);
         int methods = 0;
         while (method.find()) {

@@ -2,7 +2,8 @@ import java.util.Random;
 
 /** Long runs of calls, always the same ones, on the program and on the model; both have to answer the same. */
 public final class ModelTest {
-    private static final int RUNS = 1500, CALLS = 512;
+    /** One turn makes at most so many calls: a text of 60 characters, and its fault. */
+    private static final int RUNS = 1500, CALLS = 512, CALLS_OF_A_TURN = 9;
     private static final Due T = new Due("ModelTest");
     private static final String SIGNS = "sbpmf:,0123456789";
 
@@ -11,6 +12,7 @@ public final class ModelTest {
     private final PurseAuction x = new PurseAuction();
     private final Model m = new Model();
     private final StringBuilder history = new StringBuilder();
+    private int calls = 0;
 
     private ModelTest(int run) {
         this.run = run;
@@ -63,15 +65,16 @@ public final class ModelTest {
     }
 
     private void due(String call, long got, long want) {
+        calls++;
         history.append(call).append(' ');
         if (got != want) System.out.println("run " + run + ": " + history);
         T.due("run " + run + ": " + call, got, want);
     }
 
     private void play() {
-        for (int call = 0; call < CALLS && T.wrong() == 0; call++) {
+        for (int turn = 0; calls <= CALLS - CALLS_OF_A_TURN && T.wrong() == 0; turn++) {
             int kind = below(100);
-            if (call < 40) {
+            if (turn < 40) {
                 prepare();
             } else if (kind < 2) {
                 prepare();

@@ -241,6 +241,16 @@ public final class ReportEdgesTest {
         E.answers("13: nor one more of the fourth", four, x -> x.player(1, 7), 10 + 4);
         Run other = shared(shared(shared(shared(game(2, 0, 1, 2, 3, 4, 5), 1), 1), 1), 1);
         E.answers("13: nor a fifth one", other, x -> x.player(1, 7), 10);
+        int[][] threeColours = {{0, 1, 2}, {1, 2, 3}, {3, 4, 5}, {0, 2, 4}, {5, 3, 1}, {0, 4, 5}};
+        for (int[] owned : threeColours) {
+            for (int next = 0; next <= 5; next++) {
+                boolean alike = next == owned[0] || next == owned[1] || next == owned[2];
+                Run lots = game(2, owned[0], owned[1], owned[2], next, 0);
+                int two = next == owned[0] || next == owned[1] ? 4 : 0;
+                E.answers("13: 3 colours and colour " + next, shared(shared(shared(lots, 1), 1), 1), x -> x.player(1, 7), 10 + (alike ? 4 : 15));
+                E.answers("13: 2 colours and colour " + next, skipped(shared(shared(lots, 1), 1)), x -> x.player(1, 7), 10 + two);
+            }
+        }
         E.answers("13: SET 20 with one of its colour", shared(game(2, 0, 0, 0), 1).and(x -> x.set(SET, 20)), x -> x.player(1, 7), 30);
         E.answers("13: SET 0 with one of its colour", shared(game(2, 0, 0, 0), 1).and(x -> x.set(SET, 0)), x -> x.player(1, 7), 10);
         E.answers("13: an unsold lot of its colour is no matter", skipped(game(2, 0, 0, 0)), x -> x.player(1, 7), 10);
